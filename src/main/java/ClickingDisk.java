@@ -1199,10 +1199,9 @@ public final class ClickingDisk {
             }
         }
 
-        /** MISHAPS by a row: chains that share clusters are counted by their lengths less what they cover. */
+        /** MISHAPS by a row: a CLUSTER counts once for each CHAIN that has it behind the first one. */
         int faultsBy(int[] row) {
             int all = 0;
-            int lengthsWalked = 0;
             int covered = 0;
             for (int f = 0; f < files; f++) {
                 int seen = 0;
@@ -1215,10 +1214,10 @@ public final class ClickingDisk {
                 }
                 all += length == lengths[f] ? 0 : 1;
                 all += at == LAST ? 0 : 1;
-                lengthsWalked += length;
+                all += Integer.bitCount(covered & seen);
                 covered |= seen;
             }
-            return all + lengthsWalked - Integer.bitCount(covered) + lostOnes(row, covered);
+            return all + lostOnes(row, covered);
         }
 
         /** Bits of the CLUSTERS that are in some FILE by JOINED; all of them if it can't be JOINED. */

@@ -7,6 +7,7 @@ public final class CopiesTest {
         rightAndStrife();
         mended();
         notMended();
+        oneAfterAnother();
         mendingLimit();
         votes();
         wrongArguments();
@@ -98,6 +99,27 @@ public final class CopiesTest {
         put(high, 3, 4, 1, 0, 9);
         state(high, "the sum's bytes come from two copies", 3, 2, 0);
         CHECK.due("byte 0 of these", high.value(3, 4, 0), 257);
+    }
+
+    /** What was looked at for one sector leaves nothing behind for the next. */
+    private static void oneAfterAnother() {
+        ClickingDisk disk = disk(2, "sum add;");
+        put(disk, 1, 1, 20, 11, 0, 32);
+        put(disk, 1, 1, 21, 10, 0, 34);
+        put(disk, 1, 1, 22, 10, 0, 33);
+        put(disk, 3, 4, 10, 20, 0, 40);
+        put(disk, 3, 4, 10, 20, 0, 37);
+        put(disk, 2, 2, 10, 20, 0, 40);
+        put(disk, 2, 2, 10, 21, 0, 40);
+        put(disk, 2, 2, 10, 20, 0, 35);
+        for (int i = 0; i < 2; i++) {
+            CHECK.due("more rows than one", disk.status(1, 1, 0), 4);
+            CHECK.due("a right one", disk.status(3, 4, 0), 1);
+            CHECK.due("more rows than one again", disk.status(1, 1, 0), 4);
+            CHECK.due("just one row", disk.status(2, 2, 0), 3);
+            CHECK.due("its byte", disk.value(2, 2, 1), 256 + 21);
+            CHECK.due("one of none", disk.value(1, 1, 0), 20);
+        }
     }
 
     /** Eight spots of data with three kinds are 6561 rows; six of four kinds are 4096, and with two kinds of sum more. */
@@ -227,5 +249,10 @@ public final class CopiesTest {
                 CHECK.due("no first step by " + cell, disk.written(3, 4, 0), -1);
             }
         }
+        // eight cells of 32 are 256; they are read by a step of 255
+        ClickingDisk disk = Signals.disk("cell 32;mark 128 130;data 1;sum add;");
+        Signals.read(disk, 0, 32, "1" + Signals.raw(0x8082, 3, 4, 5, 0, 12));
+        CHECK.due("256 is read as 255", disk.status(3, 4, 0), 1);
+        CHECK.due("and not written", disk.written(3, 4, -1), -1);
     }
 }

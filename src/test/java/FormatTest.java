@@ -93,6 +93,8 @@ public final class FormatTest {
             {"cell 20; cell 30;", 9}, {"swap;swap;", 5}, {"gain 1;gain", 7}, {"sum add;sum xor;", 8}, {"cell 7 $", 5},
             {"crc 1 2;", 0}, {"add;", 0}, {GOOD + "$", 35}, {GOOD + "data 2;", 35}, {GOOD + " " + (char) 0, 36},
             {GOOD + (char) 255, 35}, {"cell 20" + (char) 160 + ";", 7}, {"cellcell 20;", 0}, {"swapcell 20;", 0},
+            {"mark ;", 5}, {"sum crc;", 7}, {"bell 20;", 0}, {"cellz 20;", 0}, {"acell 20;", 0}, {"cell`20;", 4}, {"cell{20;", 4},
+            {"cell 20:", 7}, {"cell/20;", 4},
         };
         for (Object[] row : rows) {
             CHECK.due("fault of " + row[0], faultOf((String) row[0]), (Integer) row[1]);
@@ -135,9 +137,13 @@ public final class FormatTest {
         CHECK.due("no sector", disk.status(0, 1, 0), 0);
         CHECK.due("no read", disk.found(0, -1, 0), -1);
         CHECK.due("hope is new", disk.hope(1), 50);
+        Signals.text(disk, GOOD + "gain 3;swap;");
+        disk.format();
         Signals.text(disk, GOOD);
         disk.format();
         CHECK.due("gain is 0 without", disk.count(2), 0);
+        Signals.read(disk, 1, 20, Signals.raw(0x448a, 0, 1, 7, 8, 0, 16));
+        CHECK.due("swap does not stay", disk.found(0, 0, 2), 1);
     }
 
     private static void counts() {

@@ -126,7 +126,6 @@ public final class SectorTest {
         Signals.read(disk, 0, 16, inner + good);
         CHECK.due("inner marks do not count", disk.found(3, -1, 0), 2);
         CHECK.due("the second one", disk.found(3, 1, 0), 112);
-        // a mark that begins in the last bits of a sector is not one: it must be wholly behind it
         CHECK.due("no other k", disk.found(3, 2, 0), -1);
         overlappingMark();
     }
@@ -144,6 +143,14 @@ public final class SectorTest {
         disk.read(0);
         CHECK.due("192 bits hold two", disk.found(1, -1, 0), 2);
         CHECK.due("the second behind the first", disk.found(1, 1, 0), 112);
+        // the last bit of a sector is not the first of a mark
+        ClickingDisk high = Signals.disk("cell 16;mark 145 18;data 1;sum add;");
+        String first = Signals.raw(0x9112, 0, 1, 2, 0, 3);
+        CHECK.due("it ends with 1", first.endsWith("1"), true);
+        Signals.read(high, 0, 16, first + Signals.raw(0x9112, 0, 2, 2, 0, 4).substring(1));
+        CHECK.due("one alone", high.found(0, -1, 0), 1);
+        Signals.read(high, 0, 16, first + Signals.raw(0x9112, 0, 2, 2, 0, 4));
+        CHECK.due("two with all its bits", high.found(1, -1, 0), 2);
     }
 
     private static void atMostEight() {
@@ -207,12 +214,29 @@ public final class SectorTest {
         ClickingDisk high = Signals.disk("cell 60;mark 68 138;data 2;sum add;");
         high.read(0);
         CHECK.due("nothing to read by 60", high.tuned(0, 0), 54);
-        // at 66 cells to the step 60 and no gain are the one way up to reach it
         Signals.tape(high, Signals.steps(Signals.raw(MARK, 1, 2, 30, 40, 0, 73) + "1", 63));
         high.read(1);
         CHECK.due("one is right", high.tuned(1, 2), 1);
         CHECK.due("P is within", high.tuned(1, 0) >= 54 && high.tuned(1, 0) <= 60, true);
         fewestSlips();
+        sixToEachSide();
+    }
+
+    /** 105 and 119 are seven cells each by 16 alone: 15 makes 119 eight of them, 17 makes 105 six. */
+    private static void sixToEachSide() {
+        int[] steps = Signals.steps(Signals.raw(0x0204, 1, 2, 30, 0, 33) + "1", 16);
+        steps[0] = 105;
+        steps[1] = 119;
+        int[] cells = {9, 10, 16, 22, 23};
+        for (int cell : cells) {
+            ClickingDisk disk = Signals.disk("cell " + cell + ";mark 2 4;data 1;sum add;");
+            Signals.tape(disk, steps);
+            disk.read(0);
+            boolean near = cell >= 10 && cell <= 22;
+            CHECK.due("right ones from " + cell, disk.tuned(0, 2), near ? 1 : 0);
+            CHECK.due("P from " + cell, disk.tuned(0, 0), near ? 16 : Math.max(8, cell - 6));
+            CHECK.due("G from " + cell, disk.tuned(0, 1), 0);
+        }
     }
 
     /** Two ways to read a sector as right: the one with slips is at a lower P, and does not win. */

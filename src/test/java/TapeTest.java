@@ -29,6 +29,10 @@ public final class TapeTest {
         for (int i = 1; i <= 16; i++) {
             CHECK.due("flux " + i, disk.flux(-1, -1, -1, -1, -1), 20 * i);
         }
+        CHECK.due("the most bits", disk.raw(8, 0, -1), 2560);
+        CHECK.due("the last but one of them", disk.raw(8, 0, 2558), 0);
+        CHECK.due("the last of them", disk.raw(8, 0, 2559), 1);
+        CHECK.due("none behind the last", disk.raw(8, 0, 2560), -1);
         CHECK.due("one above 320", disk.flux(0, 0, 0, 0, 1), -1);
         CHECK.due("none at 320", disk.flux(0, 0, 0, 0, 0), 320);
         CHECK.due("all are there", disk.count(4), 320);
