@@ -144,12 +144,12 @@ public final class SectorTest {
         CHECK.due("192 bits hold two", disk.found(1, -1, 0), 2);
         CHECK.due("the second behind the first", disk.found(1, 1, 0), 112);
         // the last bit of a sector is not the first of a mark
-        ClickingDisk high = Signals.disk("cell 16;mark 145 18;data 1;sum add;");
-        String first = Signals.raw(0x9112, 0, 1, 2, 0, 3);
+        ClickingDisk high = Signals.disk("cell 16;mark 145 17;data 1;sum add;");
+        String first = Signals.raw(0x9111, 0, 1, 2, 0, 3);
         CHECK.due("it ends with 1", first.endsWith("1"), true);
-        Signals.read(high, 0, 16, first + Signals.raw(0x9112, 0, 2, 2, 0, 4).substring(1));
+        Signals.read(high, 0, 16, first + Signals.raw(0x9111, 0, 2, 2, 0, 4).substring(1));
         CHECK.due("one alone", high.found(0, -1, 0), 1);
-        Signals.read(high, 0, 16, first + Signals.raw(0x9112, 0, 2, 2, 0, 4));
+        Signals.read(high, 0, 16, first + Signals.raw(0x9111, 0, 2, 2, 0, 4));
         CHECK.due("two with all its bits", high.found(1, -1, 0), 2);
     }
 
