@@ -74,38 +74,8 @@ public final class ModelTest {
             return;
         }
         calls++;
-        StringBuilder told = new StringBuilder("run " + run + " call " + calls + " " + name);
-        for (int v : a) {
-            told.append(' ').append(v);
-        }
-        check.due(told.toString(), ofDisk(name, a), ofPlain(name, a));
-    }
-
-    private int ofDisk(String name, int[] a) {
-        switch (name) {
-            case "feed": return disk.feed(a[0], a[1], a[2], a[3], a[4]);
-            case "end": return disk.end(a[0]) ? 1 : 0;
-            case "fault": return disk.fault();
-            case "format": return disk.format();
-            case "flux": return disk.flux(a[0], a[1], a[2], a[3], a[4]);
-            case "wipe": return disk.wipe();
-            case "read": return disk.read(a[0]);
-            case "raw": return disk.raw(a[0], a[1], a[2]);
-            case "found": return disk.found(a[0], a[1], a[2]);
-            case "tuned": return disk.tuned(a[0], a[1]);
-            case "status": return disk.status(a[0], a[1], a[2]);
-            case "value": return disk.value(a[0], a[1], a[2]);
-            case "tell": return disk.tell(a[0], a[1], a[2]) ? 1 : 0;
-            case "file": return disk.file(a[0], a[1]);
-            case "mishaps": return disk.mishaps(a[0]);
-            case "next": return disk.next(a[0], a[1]);
-            case "chain": return disk.chain(a[0], a[1], a[2]);
-            case "gaps": return disk.gaps(a[0]);
-            case "hope": return disk.hope(a[0]);
-            case "ask": return disk.ask(a[0]);
-            case "written": return disk.written(a[0], a[1], a[2]);
-            default: return disk.count(a[0]);
-        }
+        String told = "run " + run + " call " + calls + " " + Calls.told(name, a);
+        check.due(told, Calls.on(disk, name, a), ofPlain(name, a));
     }
 
     private int ofPlain(String name, int[] a) {

@@ -75,21 +75,13 @@ public final class SectorTest {
         CHECK.due("the track with swap", disk.found(0, 0, 1), '2');
     }
 
-    private static String flip(String bits, int... places) {
-        StringBuilder out = new StringBuilder(bits);
-        for (int place : places) {
-            out.setCharAt(place, bits.charAt(place) == '0' ? '1' : '0');
-        }
-        return out.toString();
-    }
-
     private static void slips() {
         ClickingDisk disk = Signals.disk(HEAD + "data 1;sum add;");
         String good = Signals.raw(MARK, 0, 1, 2, 0, 3);
         Signals.read(disk, 0, 16, good);
-        Signals.read(disk, 0, 16, flip(good, 18));
-        Signals.read(disk, 0, 16, flip(good, 16, 18, 94));
-        Signals.read(disk, 0, 16, flip(good, 17));
+        Signals.read(disk, 0, 16, Signals.flip(good, 18));
+        Signals.read(disk, 0, 16, Signals.flip(good, 16, 18, 94));
+        Signals.read(disk, 0, 16, Signals.flip(good, 17));
         int[] due = {0, 1, 3, 2};
         for (int read = 0; read < due.length; read++) {
             CHECK.due("slips of read " + read, disk.found(read, 0, 5), due[read]);
@@ -99,7 +91,7 @@ public final class SectorTest {
         good = Signals.raw(0x4489, 0, 1, 2, 0, 3);
         CHECK.due("the first clock is 0", good.charAt(16), '0');
         Signals.read(disk, 0, 16, good);
-        Signals.read(disk, 0, 16, flip(good, 16));
+        Signals.read(disk, 0, 16, Signals.flip(good, 16));
         CHECK.due("none behind a mark with 1", disk.found(0, 0, 5), 0);
         CHECK.due("one behind a mark with 1", disk.found(1, 0, 5), 1);
     }
@@ -243,10 +235,10 @@ public final class SectorTest {
     private static void fewestSlips() {
         ClickingDisk disk = Signals.disk("cell 20;mark 68 138;data 1;sum add;");
         String good = Signals.raw(MARK, 0, 1, 2, 0, 3);
-        Signals.read(disk, 0, 20, flip(good, 18));
+        Signals.read(disk, 0, 20, Signals.flip(good, 18));
         CHECK.due("slips are counted", disk.tuned(0, 3), 1);
         CHECK.due("of a right one", disk.tuned(0, 2), 1);
-        Signals.read(disk, 0, 20, flip(good, 18) + flip(Signals.raw(MARK, 0, 2, 2, 0, 5), 18, 20));
+        Signals.read(disk, 0, 20, Signals.flip(good, 18) + Signals.flip(Signals.raw(MARK, 0, 2, 2, 0, 5), 18, 20));
         CHECK.due("of right ones alone", disk.tuned(1, 3), 1);
         CHECK.due("one of two is right", disk.tuned(1, 2), 1);
     }

@@ -61,6 +61,32 @@ final class Signals {
         return out.toString();
     }
 
+    /** The same with so few clocks that at most seven bits 0 come in a row: more sectors find room on a tape. */
+    static String sparse(int mark, int... bytes) {
+        StringBuilder out = new StringBuilder(bitsOf(mark, 16));
+        for (int b : bytes) {
+            for (char bit : bitsOf(b, 8).toCharArray()) {
+                int zeros = out.length() - 1 - out.lastIndexOf("1");
+                out.append(zeros >= 6 ? '1' : '0').append(bit);
+            }
+        }
+        return out.toString();
+    }
+
+    static String flip(String bits, int... places) {
+        StringBuilder out = new StringBuilder(bits);
+        for (int place : places) {
+            out.setCharAt(place, bits.charAt(place) == '0' ? '1' : '0');
+        }
+        return out.toString();
+    }
+
+    static int[] times(int step, int count) {
+        int[] row = new int[count];
+        java.util.Arrays.fill(row, step);
+        return row;
+    }
+
     /** STEPS of RAW bits: one for each 1; bits behind the last 1 are lost. */
     static int[] steps(String raw, int cell) {
         List<Integer> out = new ArrayList<>();
