@@ -9,6 +9,7 @@ public final class EdgeCopiesTest {
         right();
         strife();
         mendedByJustOne();
+        oneAfterTheOther();
         rowsByPlaces();
         rowsOfThreeSpots();
         rowsOfTenSpots();
@@ -155,6 +156,22 @@ public final class EdgeCopiesTest {
         state(again, "a row of like copies is one", 3, 4, 0);
         put(again, 8, row(3, 4, 4, 0, 9));
         state(again, "4 and 11 are another", 4, 5, 0);
+    }
+
+    /** What the rows of one sector had leaves nothing behind for those of another. */
+    private static void oneAfterTheOther() {
+        CHECK.says("just one has the right SUM");
+        ClickingDisk disk = disk(2, "sum add;");
+        put(disk, 4, row(1, 1, 20, 11, 0, 32), row(1, 1, 21, 10, 0, 34), row(1, 1, 22, 10, 0, 33));
+        put(disk, 4, row(3, 4, 10, 20, 0, 40), row(3, 4, 10, 21, 0, 40), row(3, 4, 10, 20, 0, 38));
+        put(disk, 4, row(2, 2, 10, 20, 0, 40), row(2, 2, 10, 21, 0, 40), row(2, 2, 10, 20, 0, 35));
+        for (int i = 0; i < 3; i++) {
+            CHECK.due("more than one", disk.status(1, 1, 0), 4);
+            CHECK.due("just one", disk.status(2, 2, 0), 3);
+            CHECK.due("more than one again", disk.status(1, 1, 0), 4);
+            state(disk, "just one of another", 3, 3, 0);
+            CHECK.due("its byte", disk.value(3, 4, 1), 256 + 21);
+        }
     }
 
     /** Each byte comes from its own place: data that are right in another place do not mend. */

@@ -231,6 +231,10 @@ public final class EdgeDiskTest {
         CHECK.due("one mishap is left", disk.mishaps(2), 1);
         CHECK.due("what must be is from the second", disk.next(2, 0), 24);
         CHECK.due("and no more", disk.next(2, 4), 24);
+        both(disk, 23, 24);
+        CHECK.due("4 and 23 are lost", disk.mishaps(2), 2);
+        disk.file(4, 2);
+        CHECK.due("a file more: 4 goes on to 23", disk.next(2, 4), 23);
     }
 
     /**

@@ -15,6 +15,7 @@ public final class EdgeFormatTest {
         numberBounds();
         gainWithout();
         threeSums();
+        twoNumbers();
         firstToken();
         numberOrLineThatCant();
         byteThatBeginsNone();
@@ -78,6 +79,22 @@ public final class EdgeFormatTest {
         faultDue("swapgain 2;", 0);
         faultDue("swap;gain2;", 11);
         faultDue("sumadd;", 0);
+        everyLetter();
+    }
+
+    /** A word with another letter, one less or one more is no word that can stand there. */
+    private static void everyLetter() {
+        String[] words = {"cell", "gain", "mark", "data", "sum", "swap", "sum crc", "sum add", "sum xor"};
+        for (String word : words) {
+            int first = word.indexOf(' ') + 1;
+            for (int i = first; i < word.length(); i++) {
+                char letter = word.charAt(i) == 'q' ? 'z' : 'q';
+                faultDue(word.substring(0, i) + letter + word.substring(i + 1) + " 9 9;", first);
+                faultDue(word.substring(0, i) + letter + word.substring(i) + " 9 9;", first);
+                faultDue(word.substring(0, i) + word.substring(i + 1) + " 9 9;", first);
+            }
+            faultDue(word + "q 9 9;", first);
+        }
     }
 
     private static void blanksBetween() {
@@ -201,8 +218,28 @@ public final class EdgeFormatTest {
         faultDue("swap;", 5);
         faultDue("swap 0;", 5);
         faultDue("swap swap;", 5);
+        ClickingDisk disk = Signals.disk(GOOD + "swap;");
+        Signals.text(disk, "swap;swap;");
+        CHECK.due("a fault behind swap", disk.fault(), 5);
+        Signals.text(disk, GOOD);
+        disk.format();
+        Signals.read(disk, 0, 20, Signals.raw(0x448a, 1, 2, 7, 8, 0, 18));
+        CHECK.due("swap of the one ahead does not stay", disk.found(0, 0, 1), 1);
+    }
+
+    private static void twoNumbers() {
+        CHECK.says("mark A B ;");
+        faultDue("mark;", 4);
+        faultDue("mark ;", 5);
         faultDue("mark 1;", 6);
+        faultDue("mark 1 ;", 7);
+        faultDue("mark 1 2;", 9);
         faultDue("mark 1 2 3;", 9);
+        CHECK.says("sum crc X S ;");
+        faultDue("sum crc ;", 8);
+        faultDue("sum crc 1 ;", 10);
+        faultDue("sum crc 1 2 ;", 13);
+        faultDue("sum crc add;", 8);
     }
 
     private static void firstToken() {

@@ -124,10 +124,10 @@ public final class EdgeTunedTest {
      * begins with the last 16 bits of the first one, which are the mark.
      */
     private static int[] oneOrTheOther(int... slips) {
-        String first = Signals.flip(Signals.raw(MARK, 1, 2, 80, 0, 83), slips);
+        String first = Signals.raw(MARK, 1, 2, 80, 0, 83);
         CHECK.due("the first ends with the mark", first.endsWith(Signals.bitsOf(MARK, 16)), true);
         String second = Signals.raw(MARK, 1, 3, 9, 0, 13).substring(16);
-        int[] steps = Signals.steps(first + second + "1", 16);
+        int[] steps = Signals.steps(Signals.flip(first + second, slips) + "1", 16);
         steps[1] = 39;
         return steps;
     }
@@ -136,6 +136,9 @@ public final class EdgeTunedTest {
         CHECK.says("of like ones with the fewest SLIPS in these,");
         ClickingDisk disk = tunedBy("cell 21;" + TAIL, oneOrTheOther(40));
         due("one slip by 15, none by 16", disk, 16, 0, 1, 0);
+        due("none by 15, one by 16", tunedBy("cell 21;" + TAIL, oneOrTheOther(100)), 15, 0, 1, 0);
+        due("two by 15, one by 16", tunedBy("cell 21;" + TAIL, oneOrTheOther(40, 44, 100)), 16, 0, 1, 1);
+        due("one by each", tunedBy("cell 21;" + TAIL, oneOrTheOther(40, 100)), 15, 0, 1, 1);
         due("one slip alone", tunedBy("cell 21;" + TAIL, Signals.steps(
             Signals.flip(Signals.raw(MARK, 1, 2, 80, 0, 82), 40) + "1" + Signals.flip(Signals.raw(MARK, 1, 3, 9, 0, 13), 18)
             + "1", 16)), 15, 0, 1, 1);
