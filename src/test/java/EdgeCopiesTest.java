@@ -9,6 +9,7 @@ public final class EdgeCopiesTest {
         right();
         strife();
         mendedByJustOne();
+        anyOfTheRows();
         oneAfterTheOther();
         rowsByPlaces();
         rowsOfThreeSpots();
@@ -156,6 +157,37 @@ public final class EdgeCopiesTest {
         state(again, "a row of like copies is one", 3, 4, 0);
         put(again, 8, row(3, 4, 4, 0, 9));
         state(again, "4 and 11 are another", 4, 5, 0);
+    }
+
+    /** Two copies that are unlike in each place: each of their rows, the first and the last one too, can be the right one. */
+    private static void anyOfTheRows() {
+        CHECK.says("of all rows that take each byte of data and SUM from some COPY's same place just one has the right SUM");
+        for (int n = 1; n <= 4; n++) {
+            for (int choice = 0; choice < 1 << n; choice++) {
+                int[] good = new int[2 + n];
+                int[][] copies = new int[2][4 + n];
+                for (int i = 0; i < n; i++) {
+                    copies[0][2 + i] = 10 + i;
+                    copies[1][2 + i] = 90 + 3 * i;
+                    good[2 + i] = copies[choice >> i & 1][2 + i];
+                }
+                good[0] = 3;
+                good[1] = 4;
+                int sum = Signals.crc(4129, 65535, good);
+                for (int c = 0; c < 2; c++) {
+                    copies[c][0] = 3;
+                    copies[c][1] = 4;
+                    copies[c][2 + n] = sum >> 8 ^ (c == 0 ? 0 : 85);
+                    copies[c][3 + n] = sum & 255 ^ (c == 0 ? 85 : 0);
+                }
+                ClickingDisk disk = disk(n, "sum crc 4129 65535;");
+                put(disk, 1, copies);
+                state(disk, "row " + choice + " of " + n, 3, 2, 0);
+                for (int i = 0; i < n; i++) {
+                    CHECK.due("byte " + i + " of row " + choice, disk.value(3, 4, i), 256 + good[2 + i]);
+                }
+            }
+        }
     }
 
     /** What the rows of one sector had leaves nothing behind for those of another. */

@@ -22,6 +22,7 @@ public final class EdgeFormatTest {
         tooEarly();
         notTold();
         takesThePlace();
+        fewerBytes();
         constant();
         newObject();
         feed();
@@ -371,6 +372,31 @@ public final class EdgeFormatTest {
         Signals.text(disk, "cell 30;mark 68 138;data 3;sum xor;");
         CHECK.due("the same text once more", disk.format(), 3);
         CHECK.due("takes the place too", disk.count(3), 0);
+    }
+
+    /** Eight bytes of data, then one: what stood behind it in the reads of the one ahead does not count. */
+    private static void fewerBytes() {
+        CHECK.says("A FORMAT without one takes the place of the one ahead: no READS,");
+        ClickingDisk disk = Signals.disk("cell 16;mark 68 138;data 8;sum xor;");
+        for (int i = 0; i < 4; i++) {
+            Signals.read(disk, 0, 16, Signals.raw(0x448a, 3, 4, i, i, i, i, i, i, i, i, 0, 7));
+        }
+        CHECK.due("unlike data", disk.status(3, 4, 0), 2);
+        for (int n = 1; n <= 8; n++) {
+            Signals.text(disk, "cell 16;mark 68 138;data " + n + ";sum xor;");
+            CHECK.due("a format", disk.format(), n);
+            CHECK.due("nothing there", disk.status(3, 4, 0), 0);
+            int[] bytes = new int[4 + n];
+            bytes[0] = 3;
+            bytes[1] = 4;
+            bytes[3 + n] = 7;
+            Signals.read(disk, 0, 16, Signals.raw(0x448a, bytes));
+            Signals.read(disk, 0, 16, Signals.raw(0x448a, bytes));
+            CHECK.due("the same data of " + n, disk.status(3, 4, 0), 1);
+            CHECK.due("byte 0", disk.value(3, 4, 0), 256);
+            CHECK.due("behind the last byte", disk.value(3, 4, n), -1);
+            CHECK.due("found behind the last byte", disk.found(0, 0, 10 + n), -1);
+        }
     }
 
     private static void constant() {

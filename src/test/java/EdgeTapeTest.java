@@ -228,8 +228,8 @@ public final class EdgeTapeTest {
         String format = "cell 16;mark 17 17;data 1;sum add;";
         String last = Signals.raw(0x1111, 1, 2, 3, 0, 7);
         CHECK.due("one behind the other", foundIn(format, last + last), 2);
-        CHECK.due("the last bits of one begin no other", foundIn(format, last + last.substring(1)), 1);
         CHECK.due("one bit more", foundIn(format, last + "1" + last), 2);
+        lastBitIsNoFirst();
         ClickingDisk disk = Signals.disk(format);
         Signals.read(disk, 0, 16, "00010001" + last + "1111");
         CHECK.due("the first of three marks", disk.found(0, 0, 0), 16);
@@ -238,6 +238,18 @@ public final class EdgeTapeTest {
         CHECK.due("a mark that is not whole is passed by", disk.found(1, 0, 0), 16 + 96);
         Signals.read(disk, 0, 16, last + Signals.bitsOf(0x1111, 16) + last.substring(16, 94));
         CHECK.due("a mark with a bit too few behind it is none", disk.found(2, -1, 0), 1);
+    }
+
+    /** A sector ends with bits as the mark begins: these do not count for both. */
+    private static void lastBitIsNoFirst() {
+        for (int shared = 1; shared <= 2; shared++) {
+            int mark = shared == 1 ? 0x9111 : 0x5111;
+            String format = "cell 16;mark " + (mark >> 8) + " 17;data 1;sum add;";
+            String sector = Signals.raw(mark, 1, 2, 254, 1, 1);
+            CHECK.due("it ends as the mark begins", sector.endsWith(Signals.bitsOf(mark, 16).substring(0, shared)), true);
+            CHECK.due("one alone", foundIn(format, sector + sector.substring(shared)), 1);
+            CHECK.due("two with all bits", foundIn(format, sector + sector), 2);
+        }
     }
 
     /** Sectors of track 7 with numbers from 0 on, of which the first ones are wrong. */
@@ -336,6 +348,10 @@ public final class EdgeTapeTest {
             CHECK.due("the first", disk.found(4, 0, 5), 1);
             Signals.read(disk, 0, 16, Signals.flip(bits, 0) + "1" + bits);
             CHECK.due("none in the mark", disk.found(5, 0, 5), 0);
+            Signals.tape(disk, Signals.steps(Signals.flip(bits, all[clocks - 1]), 16));
+            CHECK.due("its bits are all", disk.raw(16, 0, -1), bits.length());
+            disk.read(0);
+            CHECK.due("the last, with no bit behind it", disk.found(6, 0, 5), 1);
         }
         CHECK.says("(ahead of the first CLOCK: the lowest bit of B).");
         int[][] rows = {{0x448a, 0, '1'}, {0x448a, 128, '0'}, {0x4489, 0, '0'}, {0x4489, 128, '0'}};
